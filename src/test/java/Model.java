@@ -1,0 +1,3 @@
+/** Placeholder. */
+final class Model {
+}
