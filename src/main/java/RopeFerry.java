@@ -25,10 +25,10 @@ public final class RopeFerry {
     private final Rule keptRule = new Rule();
     private final RiverReader riverReader = new RiverReader(tape, spareRiver);
     private final RuleReader ruleReader = new RuleReader(tape, spareRule);
-    private final Moves moves = new Moves(told, banks);
-    private final Plans plans = new Plans(moves);
-    private final Orders orders = new Orders(moves);
-    private final Market market = new Market(moves, loading);
+    private final Moves ways = new Moves(told, banks);
+    private final Plans plans = new Plans(ways);
+    private final Orders orders = new Orders(ways);
+    private final Market market = new Market(ways, loading);
     private boolean imageKept = false;
     private int wrongByte = NONE;
 
@@ -114,13 +114,13 @@ public final class RopeFerry {
     }
 
     public int need(int load) {
-        moves.prepare();
-        return moves.needFor(moves.weightOf[load & moves.everyone]);
+        ways.prepare();
+        return ways.needFor(ways.weightOf[load & ways.everyone]);
     }
 
     public int cross(int load, int pullers) throws IllegalStateException {
-        moves.prepare();
-        int minutes = moves.crossing(banks.state(), load, pullers);
+        ways.prepare();
+        int minutes = ways.crossing(banks.state(), load, pullers);
         if (minutes == NONE) {
             throw new IllegalStateException("the crossing is refused");
         }
@@ -133,8 +133,8 @@ public final class RopeFerry {
         if (!told.hasBeing(being)) {
             throw new IndexOutOfBoundsException("there is no such being");
         }
-        moves.prepare();
-        int minutes = moves.swimming(banks.state(), being);
+        ways.prepare();
+        int minutes = ways.swimming(banks.state(), being);
         if (minutes == NONE) {
             throw new IllegalStateException("the swim is refused");
         }
@@ -187,7 +187,7 @@ public final class RopeFerry {
     }
 
     public int left() {
-        moves.prepare();
+        ways.prepare();
         return plans.leastLeft(banks.state());
     }
 
@@ -197,7 +197,7 @@ public final class RopeFerry {
         if (!isRow || k < NONE) {
             throw new IllegalArgumentException("this is no row of loads, or no place in it");
         }
-        moves.prepare();
+        ways.prepare();
         return k == NONE ? orders.howMany(banks.state(), 0) : orders.first(banks.state(), k);
     }
 
@@ -210,7 +210,7 @@ public final class RopeFerry {
         if (what < 0 || what >= FAIR_ANSWERS) {
             throw new NoSuchElementException("there is no such answer");
         }
-        moves.prepare();
+        ways.prepare();
         market.hold(seed, minutes, chance, force);
         return market.answer(what);
     }
@@ -269,8 +269,8 @@ public final class RopeFerry {
     }
 
     private boolean findPlan(int set, boolean byMoves) {
-        moves.prepare();
-        return plans.search(banks.state(), set & moves.everyone, byMoves);
+        ways.prepare();
+        return plans.search(banks.state(), set & ways.everyone, byMoves);
     }
 
     /** What a text is made of: words and signs by their bytes, and three that no bytes tell. */
@@ -340,9 +340,9 @@ public final class RopeFerry {
             }
             starts[last] = from;
             if (isDigit(bytes[from])) {
-                boolean short3 = behind - from <= MOST_DIGITS;
-                things[last] = short3 ? Thing.NUMBER : Thing.WRONG;
-                numbers[last] = short3 ? numberOf(from, behind) : 0;
+                boolean fits = behind - from <= MOST_DIGITS;
+                things[last] = fits ? Thing.NUMBER : Thing.WRONG;
+                numbers[last] = fits ? numberOf(from, behind) : 0;
             } else {
                 things[last] = nameOf(from, behind);
             }
@@ -409,7 +409,7 @@ public final class RopeFerry {
             }
         }
 
-        /** Goes on if this thing comes here. */
+        /** Goes on by one thing, if it is this one. */
         boolean take(Thing wanted) {
             if (things[at] != wanted) {
                 return false;
@@ -909,26 +909,20 @@ public final class RopeFerry {
             return false;
         }
 
+        /** The depth is how many ( and not are open round this one. */
         private boolean readAtom(int depth) {
             Thing first = tape.thing();
-            if (first != Thing.NOT && first != Thing.OPEN) {
-                return readComparison();
-            }
-            if (depth >= DEEPEST) {
+            if ((first == Thing.NOT || first == Thing.OPEN) && depth >= DEEPEST) {
                 return false;
             }
-            tape.next();
-            if (first == Thing.OPEN) {
+            if (tape.take(Thing.OPEN)) {
                 return readAny(depth + 1) && tape.take(Thing.CLOSE);
             }
-            if (!readAtom(depth + 1)) {
-                return false;
+            if (tape.take(Thing.NOT)) {
+                boolean right = readAtom(depth + 1);
+                rule.putStep(Rule.NOT);
+                return right;
             }
-            rule.putStep(Rule.NOT);
-            return true;
-        }
-
-        private boolean readComparison() {
             if (!readSum()) {
                 return false;
             }
@@ -1157,7 +1151,11 @@ public final class RopeFerry {
             return stream + (weight + river.boat + 19) / 20;
         }
 
-        /** By a force above 0. */
+        boolean ropeBears(int weight) {
+            return weight + river.boat <= river.rope;
+        }
+
+        /** NONE without force. */
         int minutesFor(int need, int force) {
             return force <= 0 ? NONE : Math.max(1, (river.wide * need + force - 1) / force);
         }
@@ -1175,7 +1173,7 @@ public final class RopeFerry {
             }
             int need = needFor(weightOf[load]);
             int force = forceOf[pullers];
-            if (weightOf[load] + river.boat > river.rope || force < need || force == 0) {
+            if (!ropeBears(weightOf[load]) || force < need) {
                 return NONE;
             }
             if ((companyOf[load] & ~load) != 0 || !keepsPeace(here, there, load)) {
@@ -1213,7 +1211,7 @@ public final class RopeFerry {
         }
 
         int behind(int state, int move) {
-            return move >= SWIM ? state ^ 2 << (move - SWIM) : state ^ (move << 1 | 1);
+            return move >= SWIM ? state ^ (2 << (move - SWIM)) : state ^ (move << 1 | 1);
         }
 
         /** Lists all moves that a state has, in their order, with their minutes. */
@@ -1223,8 +1221,8 @@ public final class RopeFerry {
             int load = 0;
             for (int more = 1 << Integer.bitCount(here); more > 0; more--) {
                 putMove(load, minutesOf(state, load));
-                // The next greater subset of those who are here.
-                load = load - here & here;
+                // The next greater set of those who are here alone.
+                load = (load - here) & here;
             }
             for (int being = 0; being < river.beings; being++) {
                 putMove(SWIM + being, swimming(state, being));
@@ -1369,7 +1367,9 @@ public final class RopeFerry {
 
         /** Marks the states of all best plans, from the goals on backwards. */
         private void markPlans() {
-            Arrays.fill(onPlan, false);
+            for (int state = 0; state < STATES; state++) {
+                onPlan[state] = false;
+            }
             for (int i = settledSize - 1; i >= 0; i--) {
                 int state = settled[i];
                 onPlan[state] = isGoal(state) || firstOnPlan(state) != NONE;
@@ -1585,7 +1585,7 @@ public final class RopeFerry {
         }
 
         private boolean bears(int load, int force) {
-            return load + moves.river.boat <= moves.river.rope && moves.needFor(load) <= force;
+            return moves.ropeBears(load) && moves.needFor(load) <= force;
         }
 
         /** Those aboard leave; the others keep their order. */
