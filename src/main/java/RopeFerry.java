@@ -8,6 +8,7 @@ public final class RopeFerry {
     private static final int MOST_BEINGS = 10;
     private static final int MOST_TEXTS = 10;
     private static final int MOST_BYTES = 400;
+    private static final int FED_BYTES = 20;
     private static final int SETS = 1 << MOST_BEINGS;
     private static final int LONGEST_REST = 600;
     private static final int LONGEST_FAIR = 600;
@@ -36,7 +37,7 @@ public final class RopeFerry {
     }
 
     public int feed(int a, int b, int c, int d, int e) {
-        if (!tape.hasRoomForFive()) {
+        if (tape.size + FED_BYTES > MOST_BYTES) {
             return NONE;
         }
         tape.append(a);
@@ -303,10 +304,6 @@ public final class RopeFerry {
         private final int[] numbers = new int[MOST_BYTES + 1];
         private int last = 0;
         private int at = 0;
-
-        boolean hasRoomForFive() {
-            return size + 20 <= MOST_BYTES;
-        }
 
         void append(int four) {
             for (int shift = 24; shift >= 0 && size < MOST_BYTES; shift -= 8) {
@@ -1109,7 +1106,6 @@ public final class RopeFerry {
         private final Banks banks;
         private int everyone = 0;
         private int stream = 0;
-        private int strong = 0;
         private final int[] weightOf = new int[SETS];
         private final int[] forceOf = new int[SETS];
         private final int[] companyOf = new int[SETS];
@@ -1127,7 +1123,6 @@ public final class RopeFerry {
         void prepare() {
             everyone = river.everyone();
             stream = river.stream[banks.hour()];
-            strong = 0;
             for (int being = 0; being < river.beings; being++) {
                 prepareBeing(being, banks.forceOf(being, river));
             }
@@ -1139,7 +1134,6 @@ public final class RopeFerry {
         /** Tells the sums of all sets of which this being is the last, by those without it. */
         private void prepareBeing(int being, int force) {
             int bit = 1 << being;
-            strong |= force > 0 ? bit : 0;
             for (int set = 0; set < bit && (bit | set) < SETS; set++) {
                 weightOf[bit | set] = weightOf[set] + river.weight[being];
                 forceOf[bit | set] = forceOf[set] + force;
@@ -1202,12 +1196,9 @@ public final class RopeFerry {
             return peaceful[from & ~going] && peaceful[to] && peaceful[to | going];
         }
 
-        /** The minutes of a move, by all who have force where the ferry goes, or NONE. */
-        int minutesOf(int state, int move) {
-            if (move >= SWIM) {
-                return swimming(state, move - SWIM);
-            }
-            return crossing(state, move, strong & ~here(state));
+        /** A crossing as a move. All there may pull: those without force add nothing. */
+        int ferrying(int state, int load) {
+            return crossing(state, load, everyone & ~here(state));
         }
 
         int behind(int state, int move) {
@@ -1220,7 +1211,7 @@ public final class RopeFerry {
             int here = here(state);
             int load = 0;
             for (int more = 1 << Integer.bitCount(here); more > 0; more--) {
-                putMove(load, minutesOf(state, load));
+                putMove(load, ferrying(state, load));
                 // The next greater set of those who are here alone.
                 load = (load - here) & here;
             }
@@ -1460,7 +1451,7 @@ public final class RopeFerry {
         }
 
         private boolean canFollow(int state, int used, int i) {
-            return (used >> i & 1) == 0 && moves.minutesOf(state, loads[i]) != NONE;
+            return (used >> i & 1) == 0 && moves.ferrying(state, loads[i]) != NONE;
         }
     }
 

@@ -42,6 +42,12 @@ public final class ImageTest {
         for (int n = 2; n <= 10; n++) {
             Checks.due("river", Checks.river(ferry, "apart 0 1"), n);
         }
+        RopeFerry full = Checks.ferryWith(ALL);
+        full.image();
+        Checks.river(full, "with 0 1;with 0 1;with 0 1;with 0 1;with 0 1;with 0 1;with 0 1");
+        full.back();
+        Checks.due("river", Checks.river(full,
+                "with 0 1;with 0 1;with 0 1;with 0 1;with 0 1;with 0 1;with 0 1"), 2);
     }
 
     private static void backAgain() {

@@ -5,6 +5,7 @@ public final class LostTest {
         oneOrder();
         alikeOnes();
         notFromHere();
+        byNow();
         nothingChanges();
         Checks.finish();
     }
@@ -90,6 +91,16 @@ public final class LostTest {
         by.cross(4, 1);
         Checks.due("from now on: to BANK 0", Checks.lost(by, -1, 4, 8), 1);
         Checks.due("4 first", Checks.lost(by, 0, 8, 4), 1);
+    }
+
+    /** By STREAM of now and TIRED as now: what was asked before tells nothing. */
+    private static void byNow() {
+        RopeFerry ferry = Checks.ferryWith("person 4 1 swims;lame 1;stream 0 0;stream 1 9;boat 0;wide 40");
+        Checks.due("nobody pulls", Checks.lost(ferry, -1, 2), 0);
+        ferry.swim(0);
+        Checks.due("0 pulls", Checks.lost(ferry, -1, 2), 1);
+        ferry.rest(20);
+        Checks.due("STREAM is too strong", Checks.lost(ferry, -1, 2), 0);
     }
 
     private static void nothingChanges() {

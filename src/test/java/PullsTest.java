@@ -5,6 +5,7 @@ public final class PullsTest {
 
     public static void main(String[] args) {
         owed();
+        owedByPersonsAndLame();
         owedOfNone();
         clear();
         leastNumbers();
@@ -35,6 +36,19 @@ public final class PullsTest {
         Checks.due("BALANCE of 0", ferry.look(0, 7), 0);
         Checks.due("BALANCE of 5", ferry.look(5, 7), -2);
         Checks.due("BALANCE of 2", ferry.look(2, 7), 2);
+    }
+
+    /** Neither beasts nor goods owe, whatever their number. */
+    private static void owedByPersonsAndLame() {
+        String[] first = {"person 0 5", "beast 0 5", "goods 5", "lame 5"};
+        for (int kind = 0; kind < 4; kind++) {
+            RopeFerry ferry = Checks.ferryWith(first[kind] + ";person 9 5 swims;" + first[kind]);
+            ferry.swim(1);
+            ferry.cross(5, 2);
+            Checks.due("owed(0, 1) of KIND " + kind, ferry.owed(0, 1), kind % 3 == 0 ? 1 : 0);
+            Checks.due("owed(2, 1) of KIND " + kind, ferry.owed(2, 1), kind % 3 == 0 ? 1 : 0);
+            Checks.due("owed(1, 0) of KIND " + kind, ferry.owed(1, 0), 0);
+        }
     }
 
     private static void owedOfNone() {

@@ -11,6 +11,7 @@ public final class RiverTest {
         pairs();
         firstWrongBytes();
         tooMany();
+        longest();
         tenTexts();
         nothingStays();
         Checks.finish();
@@ -141,6 +142,15 @@ public final class RiverTest {
         wrong("boat -1", 5);
         wrong("boat 1;rope 0", 12);
         wrong("boat 1\0", 6);
+        wrong("goodsz 5", 0);
+        wrong("boat 1;goods 5a", 14);
+        // Where the next LINE begins too early.
+        String[] begun = {"person", "person 5", "beast 5", "goods", "lame", "rope", "boat", "wide",
+            "stream", "stream 5", "lame 1;apart", "lame 1;apart 0", "lame 1;lame 1;apart 0 1 unless",
+            "lame 1;with", "lame 1;with 0"};
+        for (String line : begun) {
+            wrong(line + ";boat 1", line.length());
+        }
     }
 
     private static String times(String line, int n) {
@@ -168,6 +178,14 @@ public final class RiverTest {
         wrong(ferry, "boat 1;with 0 1", 7);
         wrong(two + ";" + times("with 0 1", 12) + ";with 9 9", 14 + 108);
         Checks.due("other LINES still come", Checks.river(ferry, "lame 1;boat 3"), 5);
+    }
+
+    private static void longest() {
+        String text = "boat 1" + " ".repeat(394);
+        Checks.due("a text of 400", Checks.river(new RopeFerry(), text), 1);
+        wrong(";".repeat(400), 0);
+        wrong("boat 1" + " ".repeat(393) + ";", 400);
+        wrong("boat 1" + " ".repeat(393) + "x", 399);
     }
 
     private static void tenTexts() {

@@ -4,6 +4,7 @@ public final class RuleTest {
         rightOnes();
         firstWrongBytes();
         depth();
+        longest();
         tooMany();
         theOneBefore();
         Checks.finish();
@@ -93,6 +94,20 @@ public final class RuleTest {
         right("5 if not 1<2 and not 1<2 and not 1<2 and not 1<2 and not 1<2 and not 1<2 and not 1<2",
                 1);
         right("5 if (1<2)and(1<2)and(1<2)and(1<2)and(1<2)and(1<2)and(1<2)and((((((1<2))))))", 1);
+    }
+
+    private static void longest() {
+        // 400 bytes, 395 things.
+        StringBuilder text = new StringBuilder("1 if 1");
+        while (text.length() < 398) {
+            text.append("+1");
+        }
+        right(text + ">1", 1);
+        wrong(text + ">+", 399);
+        wrong(text + "+1", 400);
+        wrong("(".repeat(400), 0);
+        wrong("1 if " + "(".repeat(395), 11);
+        wrong("1 if " + "not(".repeat(98), 17);
     }
 
     private static void tooMany() {
