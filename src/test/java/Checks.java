@@ -38,6 +38,14 @@ final class Checks {
         System.out.println(call + " " + got + ", due is " + want.getSimpleName());
     }
 
+    /** The call must throw just this exception, and change nothing that can be asked for. */
+    static void refused(RopeFerry ferry, String call, Class<? extends RuntimeException> want,
+            Call made) {
+        List<Integer> before = answersOf(ferry);
+        thrown(call, want, made);
+        same("behind " + call, answersOf(ferry), before);
+    }
+
     /** Puts a text, of signs 0 to 255, behind the tape; it must leave no rest of twenty too much. */
     static void tell(RopeFerry ferry, String text) {
         int before = sizeOf(ferry);
@@ -65,6 +73,15 @@ final class Checks {
         return size;
     }
 
+    /** A text of one LINE again and again. */
+    static String times(String line, int n) {
+        StringBuilder text = new StringBuilder(line);
+        for (int i = 1; i < n; i++) {
+            text.append(';').append(line);
+        }
+        return text.toString();
+    }
+
     static int river(RopeFerry ferry, String text) {
         tell(ferry, text);
         return ferry.river();
@@ -73,6 +90,24 @@ final class Checks {
     static int rule(RopeFerry ferry, String text) {
         tell(ferry, text);
         return ferry.rule();
+    }
+
+    /** The text must be refused for this first wrong byte, and use the TAPE up. */
+    static void wrongRiver(RopeFerry ferry, String text, int at) {
+        tell(ferry, text);
+        thrown("river of '" + text + "'", IllegalArgumentException.class, ferry::river);
+        wrongText(ferry, text, at);
+    }
+
+    static void wrongRule(RopeFerry ferry, String text, int at) {
+        tell(ferry, text);
+        thrown("rule '" + text + "'", IllegalArgumentException.class, ferry::rule);
+        wrongText(ferry, text, at);
+    }
+
+    private static void wrongText(RopeFerry ferry, String text, int at) {
+        due("fault of '" + text + "'", ferry.fault(), at);
+        due("behind '" + text + "' the TAPE is used up: end(1)", ferry.end(1), false);
     }
 
     static RopeFerry ferryWith(String... texts) {
@@ -114,6 +149,11 @@ final class Checks {
             answers.add(ferry.may(set) ? 1 : 0);
             answers.add(ferry.need(set));
         }
+        for (int k = RopeFerry.NONE; k < 9; k++) {
+            answers.add(ferry.clear(k));
+            answers.add(ferry.row(-1, true, k));
+        }
+        answers.add(ferry.plan(-1, false, 0));
         answers.add(ferry.left());
         answers.add(ferry.fair(7, 200, 60, 40, 4));
         return answers;

@@ -1,278 +1,347 @@
-/** Promises 7 (look), 8 (need), 9 (cross), 10 (swim), 11 (rest), 12 (may). */
+/** Promises 8 (need) and 9 (cross). */
 public final class CrossingTest {
+    private static final String FIVE =
+            "person 9 5 swims;beast 0 5;goods 5;lame 5;person 9 5;stream 0 0;boat 0";
+
     public static void main(String[] args) {
-        look();
         need();
-        crossRefused();
-        crossMinutes();
-        ropeBears();
+        needOfNothing();
+        needOfMuch();
+        needWhereverTheyAre();
+        needOfNone();
+        loadOfThoseThere();
+        noLoad();
+        pullersOfTheOtherBank();
+        noPullers();
+        rope();
+        ropeOfTheBoatAlone();
+        forceBelowNeed();
+        forceOfNone();
         goesWith();
         apartWhileItGoes();
-        swim();
-        swimRefused();
-        rest();
-        tiredAndHours();
-        may();
+        apartBehindIt();
+        apartOnTheOtherBank();
+        apartOnTheFerry();
+        minutes();
+        oneMinuteAtLeast();
+        behindACrossing();
+        thereAndBack();
         Checks.finish();
     }
 
     private static void refused(RopeFerry ferry, int load, int pullers) {
-        java.util.List<Integer> before = Checks.answersOf(ferry);
-        Checks.thrown("cross(" + load + ", " + pullers + ")", IllegalStateException.class,
+        Checks.refused(ferry, "cross(" + load + ", " + pullers + ")", IllegalStateException.class,
                 () -> ferry.cross(load, pullers));
-        Checks.same("behind a refused crossing", Checks.answersOf(ferry), before);
     }
 
-    private static void look() {
-        RopeFerry ferry = Checks.ferryWith("person 7 60 swims;lame 5");
-        ferry.swim(0);
-        int[] due = {0, 7, 60, 1, 2, 5, 1, 0};
-        for (int what = 0; what < 8; what++) {
-            Checks.due("look(0, " + what + ")", ferry.look(0, what), due[what]);
-        }
-        ferry.cross(2, 1);
-        Checks.due("BALANCE of who pulled", ferry.look(0, 7), 1);
-        Checks.due("BALANCE of who was pulled", ferry.look(1, 7), -1);
-        Checks.thrown("look(0, 8)", java.util.NoSuchElementException.class, () -> ferry.look(0, 8));
-        Checks.thrown("look(1, -1)", java.util.NoSuchElementException.class,
-                () -> ferry.look(1, -1));
-        for (int being : new int[] {2, -1, 10, Integer.MIN_VALUE, Integer.MAX_VALUE}) {
-            Checks.thrown("look(" + being + ", 9)", IndexOutOfBoundsException.class,
-                    () -> ferry.look(being, 9));
-        }
+    private static void goes(RopeFerry ferry, int load, int pullers, int minutes) {
+        Checks.due("cross(" + load + ", " + pullers + ")", ferry.cross(load, pullers), minutes);
     }
 
+    /** "STREAM of the hour, and a 20th of all WEIGHT (BOAT, too), rounded up." */
     private static void need() {
-        RopeFerry ferry = Checks.ferryWith("person 5 1 swims;goods 20;goods 99");
-        Checks.due("need(0)", ferry.need(0), 3);
-        Checks.due("need(1), rounded up", ferry.need(1), 4);
-        Checks.due("need(2)", ferry.need(2), 4);
-        Checks.due("need(3), rounded up", ferry.need(3), 5);
-        Checks.due("need(7)", ferry.need(7), 9);
-        Checks.due("need(-1), by those that there are", ferry.need(-1), 9);
-        Checks.due("need(8), of nobody", ferry.need(8), 3);
-        ferry.swim(0);
-        Checks.due("need(1), who is on the other BANK", ferry.need(1), 4);
-        Checks.river(ferry, "boat 0;stream 0 0;stream 1 9");
+        RopeFerry ferry = Checks.ferryWith("person 5 1;goods 20;goods 99;stream 1 9");
+        Checks.due("need(0), 20 of BOAT", ferry.need(0), 3);
+        Checks.due("need(1), 21", ferry.need(1), 4);
+        Checks.due("need(2), 40", ferry.need(2), 4);
+        Checks.due("need(3), 41", ferry.need(3), 5);
+        Checks.due("need(4), 119", ferry.need(4), 8);
+        Checks.due("need(5), 120", ferry.need(5), 8);
+        Checks.due("need(7), 140", ferry.need(7), 9);
+        ferry.rest(59);
+        Checks.due("need(0) at the end of the hour", ferry.need(0), 3);
+        ferry.rest(1);
+        Checks.due("need(0) by STREAM of the next", ferry.need(0), 10);
+    }
+
+    /** "STREAM 0 to 9", "BOAT: WEIGHT of THE FERRY, 0 to 99": NEED can be 0. */
+    private static void needOfNothing() {
+        RopeFerry ferry = Checks.ferryWith("person 5 1;stream 0 0;boat 0");
         Checks.due("need(0) of nothing", ferry.need(0), 0);
         Checks.due("need(1) of 1", ferry.need(1), 1);
-        ferry.rest(60);
-        Checks.due("need(0) by STREAM of the hour", ferry.need(0), 9);
     }
 
-    private static void crossRefused() {
-        RopeFerry ferry = Checks.ferryWith("person 3 10 swims;person 9 20;goods 10;stream 0 0");
-        refused(ferry, 0, 0);
-        refused(ferry, 0, 2);
-        refused(ferry, 8, 1);
+    /** "WEIGHT 1 to 99", "0 to 99 (20)", "STREAM 0 to 9": the most that NEED can be. */
+    private static void needOfMuch() {
+        RopeFerry ferry = Checks.ferryWith(Checks.times("goods 99", 10) + ";stream 0 9;boat 99");
+        Checks.due("need(1023)", ferry.need(1023), 9 + 55);
+    }
+
+    /** "NEED for a load (whoever is where)." */
+    private static void needWhereverTheyAre() {
+        RopeFerry ferry = Checks.ferryWith("person 5 1 swims;goods 20");
+        int before = ferry.need(1);
+        ferry.swim(0);
+        Checks.due("need(1), who is on the other BANK", ferry.need(1), before);
+        Checks.due("need(3), of both BANKS", ferry.need(3), 5);
+    }
+
+    /** "Sets are bits; of none they count for nothing" */
+    private static void needOfNone() {
+        RopeFerry ferry = Checks.ferryWith("person 5 1;goods 20");
+        Checks.due("need(-1), by those that there are", ferry.need(-1), ferry.need(3));
+        Checks.due("need(4), of nobody", ferry.need(4), ferry.need(0));
+        Checks.due("need(MIN), of nobody", ferry.need(Integer.MIN_VALUE), ferry.need(0));
+        Checks.due("need(-1), where nobody is", new RopeFerry().need(-1), 3);
+    }
+
+    /** "a load (a set of BEINGS that are there" "those that are not there are refused" */
+    private static void loadOfThoseThere() {
+        RopeFerry ferry = Checks.ferryWith(FIVE);
         ferry.swim(0);
         refused(ferry, 1, 1);
-        refused(ferry, 2, 4);
-        refused(ferry, 2, 5);
-        refused(ferry, 8, 1);
-        refused(ferry, 2, 9);
-        refused(ferry, Integer.MIN_VALUE, 1);
-        refused(ferry, 1024, 1);
-        refused(ferry, 2, -1);
-        // FORCE of 0 is 1, by TIRED of 2; NEED is 1 without a load.
-        Checks.due("cross(0, 1)", ferry.cross(0, 1), 10);
-        Checks.due("TIRED", ferry.look(0, 4), 3);
-        Checks.due("BANK of the FERRY", ferry.count(3), 1);
-        refused(ferry, 4, 2);
-        Checks.river(ferry, "boat 0");
-        // NEED is 0 now, but FORCE of 0 pulls nothing.
-        ferry.cross(0, 2);
-        refused(ferry, 0, 1);
-        refused(ferry, 0, 0);
+        refused(ferry, 1 | 4, 1);
+        for (int none : new int[] {32, 512, 1024, 1 << 20, Integer.MIN_VALUE, -1}) {
+            refused(ferry, none, 1);
+            refused(ferry, none | 4, 1);
+        }
+        goes(ferry, 4, 1, 2);
+        refused(ferry, 2, 16);
+        refused(ferry, 2 | 4, 16);
+        goes(ferry, 4, 16, 2);
     }
 
-    private static void crossMinutes() {
-        RopeFerry ferry = Checks.ferryWith(
-                "person 9 10 swims;person 9 20 swims;lame 30;beast 7 40;stream 0 1;wide 7");
+    /** "a load (a set of BEINGS that are there, perhaps none)" */
+    private static void noLoad() {
+        RopeFerry ferry = Checks.ferryWith(FIVE);
         ferry.swim(0);
-        ferry.swim(1);
-        Checks.due("CLOCK behind two SWIMS", ferry.count(2), 16);
-        // NEED 1 and 90 by 20 rounded up: 6; FORCE 7 and 7.
-        Checks.due("cross(12, 3)", ferry.cross(12, 3), 3);
-        Checks.due("CLOCK", ferry.count(2), 19);
+        goes(ferry, 0, 1, 1);
         Checks.due("BANK of the FERRY", ferry.count(3), 1);
-        Checks.due("BEINGS at BANK 1", ferry.count(4), 15);
-        Checks.due("CROSSINGS", ferry.count(10), 1);
-        Checks.due("TIRED of a PULLER", ferry.look(0, 4), 3);
-        Checks.due("TIRED of the load", ferry.look(3, 4), 0);
-        Checks.river(ferry, "boat 0;stream 0 0;wide 60;goods 1;person 9 1");
-        // NEED 0: still one minute; a puller without FORCE is TIRED, too.
-        Checks.due("cross(0, 48)", ferry.cross(0, 48), 1);
-        Checks.due("TIRED of goods that pull", ferry.look(4, 4), 1);
-        Checks.due("FORCE of goods", ferry.look(4, 5), 0);
-        Checks.due("CLOCK", ferry.count(2), 20);
+        Checks.due("BEINGS at BANK 1", ferry.count(4), 1);
+        Checks.due("TIRED of the PULLER", ferry.look(0, 4), 3);
     }
 
-    private static void ropeBears() {
-        RopeFerry ferry = Checks.ferryWith("person 9 10 swims;goods 60;goods 1;rope 80;stream 0 0");
+    /** "PULLERS (a set of BEINGS of the other BANK" "those that are not there are refused" */
+    private static void pullersOfTheOtherBank() {
+        RopeFerry ferry = Checks.ferryWith(FIVE);
         ferry.swim(0);
-        refused(ferry, 6, 1);
-        Checks.due("just what ROPE bears, BOAT too", ferry.cross(2, 1), 6);
-        Checks.river(ferry, "boat 21;person 9 9");
-        ferry.cross(0, 8);
-        Checks.river(ferry, "rope 21");
+        refused(ferry, 4, 16);
+        refused(ferry, 4, 1 | 16);
+        refused(ferry, 4, 1 | 4);
+        for (int none : new int[] {32, 512, 1024, 1 << 20, Integer.MIN_VALUE, -1}) {
+            refused(ferry, 4, none);
+            refused(ferry, 4, none | 1);
+        }
+        goes(ferry, 4, 1, 2);
         refused(ferry, 4, 1);
-        Checks.river(ferry, "rope 20");
-        refused(ferry, 0, 1);
+        refused(ferry, 4, 1 | 16);
+        goes(ferry, 4, 16, 2);
     }
 
+    /** "PULLERS (a set of BEINGS of the other BANK, perhaps none)": their FORCE "is 0". */
+    private static void noPullers() {
+        RopeFerry ferry = Checks.ferryWith(FIVE);
+        refused(ferry, 0, 0);
+        refused(ferry, 4, 0);
+        ferry.swim(0);
+        refused(ferry, 0, 0);
+        refused(ferry, 4, 0);
+        refused(new RopeFerry(), 0, 0);
+    }
+
+    /** "refused, if WEIGHT of all is above ROPE" */
+    private static void rope() {
+        String all = "person 9 10 swims;goods 60;goods 1;stream 0 0;rope ";
+        RopeFerry ferry = Checks.ferryWith(all + 80);
+        ferry.swim(0);
+        refused(ferry, 2 | 4, 1);
+        goes(ferry, 2, 1, 6);
+        RopeFerry more = Checks.ferryWith(all + 79);
+        more.swim(0);
+        refused(more, 2, 1);
+        goes(more, 4, 1, 3);
+    }
+
+    /** "refused, if WEIGHT of all is above ROPE": also without a load. */
+    private static void ropeOfTheBoatAlone() {
+        RopeFerry ferry = Checks.ferryWith("person 9 10 swims;boat 21;rope 20;stream 0 0");
+        ferry.swim(0);
+        refused(ferry, 0, 1);
+        Checks.river(ferry, "rope 21");
+        goes(ferry, 0, 1, 3);
+    }
+
+    /** "FORCE of all PULLERS is below NEED" */
+    private static void forceBelowNeed() {
+        RopeFerry ferry = Checks.ferryWith("person 5 5 swims;person 4 5 swims;goods 60;goods 40;goods 1;"
+                + "stream 0 0;boat 0;wide 1");
+        ferry.swim(0);
+        // FORCE is 3 behind the SWIM.
+        refused(ferry, 4 | 16, 1);
+        goes(ferry, 4, 1, 1);
+        ferry.swim(1);
+        // FORCE of both is 4 now, and THE FERRY at BANK 1.
+        Checks.river(ferry, "person 9 5");
+        goes(ferry, 0, 32, 1);
+        refused(ferry, 8 | 16, 1);
+        refused(ferry, 8 | 16, 2);
+        Checks.due("need(24)", ferry.need(8 | 16), 3);
+        goes(ferry, 8 | 16, 1 | 2, 1);
+    }
+
+    /** "FORCE of all PULLERS is below NEED, or is 0" */
+    private static void forceOfNone() {
+        RopeFerry ferry = Checks.ferryWith("person 2 5 swims;goods 5;person 9 5;lame 5;stream 0 0;boat 0");
+        ferry.swim(0);
+        Checks.due("FORCE", ferry.look(0, 5), 0);
+        Checks.due("need(0)", ferry.need(0), 0);
+        refused(ferry, 0, 1);
+        Checks.river(ferry, "person 9 5 swims");
+        ferry.swim(4);
+        goes(ferry, 2 | 8, 1 | 16, 2);
+        refused(ferry, 2, 0);
+        ferry.cross(0, 4);
+        refused(ferry, 0, 2);
+        refused(ferry, 0, 2 | 8);
+    }
+
+    /** "with: A goes on THE FERRY only with B" "somebody is there without whom one must go WITH" */
     private static void goesWith() {
-        RopeFerry ferry = Checks.ferryWith(
-                "person 9 5 swims;goods 5;goods 5;goods 5;with 1 2;with 1 3;stream 0 0;boat 0");
+        RopeFerry ferry = Checks.ferryWith("person 9 5 swims;goods 5;goods 5;goods 5;person 9 5;"
+                + "with 1 2;with 1 3;stream 0 0;boat 0");
         ferry.swim(0);
         refused(ferry, 2, 1);
         refused(ferry, 2 | 4, 1);
         refused(ferry, 2 | 8, 1);
-        Checks.due("2 may go without 1", ferry.cross(4, 1), 2);
-        Checks.river(ferry, "person 9 5");
-        ferry.cross(4, 16);
-        Checks.due("1 goes with both", ferry.cross(2 | 4 | 8, 1), 2);
+        // B may go without A.
+        goes(ferry, 4, 1, 2);
+        // B is on the other BANK, not on THE FERRY.
+        ferry.cross(0, 16);
+        refused(ferry, 2 | 8, 1);
+        goes(ferry, 8, 1, 2);
+        goes(ferry, 4 | 8, 16, 2);
+        goes(ferry, 2 | 4 | 8, 1, 2);
+        refused(ferry, 2, 16);
     }
 
+    /** "or two who are APART would be on a BANK alone, while it goes (those of the load are on none)" */
     private static void apartWhileItGoes() {
-        String all = "person 9 5 swims;beast 0 5;goods 5;lame 5;person 9 5;stream 0 0;boat 0;";
         for (String apart : new String[] {"apart 1 2 unless 3", "apart 2 1 unless 3"}) {
-            RopeFerry ferry = Checks.ferryWith(all + apart);
+            RopeFerry ferry = Checks.ferryWith(FIVE + ";" + apart);
             ferry.swim(0);
+            // 3 leaves 1 and 2 alone.
             refused(ferry, 8, 1);
-            refused(ferry, 2 | 4, 1);
-            Checks.due("1 and 3 go", ferry.cross(2 | 8, 1), 2);
-            Checks.due("3 comes back", ferry.cross(8, 16), 2);
+            refused(ferry, 8 | 16, 1);
+            goes(ferry, 2 | 8, 1, 2);
+            goes(ferry, 8, 16, 2);
             refused(ferry, 4, 1);
-            Checks.due("2 and 3 go", ferry.cross(4 | 8, 1), 2);
-            refused(ferry, 8, 16);
-            Checks.due("3 stays", ferry.cross(0, 16), 1);
-            Checks.due("4 goes", ferry.cross(16, 1), 2);
-            Checks.due("BEINGS at BANK 1", ferry.count(4), 31);
+            goes(ferry, 4 | 8, 1, 2);
         }
-        RopeFerry never = Checks.ferryWith(all + "apart 0 4");
-        Checks.thrown("swim(0), told of another", IndexOutOfBoundsException.class,
-                () -> never.swim(5));
-        Checks.due("one of the two swims away", never.swim(0), 10);
-        refused(never, 16, 1);
-        Checks.due("another goes over", never.cross(2, 1), 2);
-        Checks.thrown("back to who is apart", IllegalStateException.class, () -> never.swim(0));
-        otherBankWhileItGoes(all);
     }
 
-    /** Who comes too late to the other BANK does not help those who are alone till then. */
-    private static void otherBankWhileItGoes(String all) {
-        RopeFerry ferry = Checks.ferryWith(all + "lame 9");
+    /** "or two who are APART would be on a BANK alone .. or behind it." */
+    private static void apartBehindIt() {
+        RopeFerry ferry = Checks.ferryWith(FIVE + ";apart 0 4");
+        ferry.swim(0);
+        refused(ferry, 16, 1);
+        refused(ferry, 2 | 16, 1);
+        goes(ferry, 2, 1, 2);
+        RopeFerry unless = Checks.ferryWith(FIVE + ";apart 0 4 unless 3");
+        unless.swim(0);
+        refused(unless, 16, 1);
+        goes(unless, 8 | 16, 1, 2);
+        refused(unless, 8, 1);
+    }
+
+    /** "would be on a BANK alone, while it goes": who comes too late is no help on the other BANK. */
+    private static void apartOnTheOtherBank() {
+        RopeFerry ferry = Checks.ferryWith(FIVE);
         ferry.swim(0);
         ferry.cross(2 | 4, 1);
         ferry.cross(0, 16);
         ferry.image();
-        Checks.due("without any apart", ferry.cross(8, 1), 2);
+        goes(ferry, 8, 1, 2);
         ferry.back();
-        Checks.river(ferry, "apart 1 2 unless 3;person 9 9 swims;apart 1 2 unless 6");
+        Checks.river(ferry, "apart 1 2 unless 3");
         refused(ferry, 8, 1);
         refused(ferry, 0, 1);
-        Checks.thrown("swim(6)", IllegalStateException.class, () -> ferry.swim(6));
+        // They are alone as THE FERRY leaves them behind, too.
+        ferry.back();
+        ferry.cross(8, 1);
+        Checks.river(ferry, "apart 1 2 unless 3");
+        refused(ferry, 8, 16);
+        goes(ferry, 2 | 8, 16, 2);
     }
 
-    private static void swim() {
-        RopeFerry ferry = Checks.ferryWith("person 5 60 swims;beast 9 50 swims;wide 33");
-        Checks.due("swim(0)", ferry.swim(0), 35);
-        Checks.due("TIRED", ferry.look(0, 4), 2);
-        Checks.due("BANK", ferry.look(0, 6), 1);
-        Checks.due("SWIMS", ferry.count(11), 1);
-        Checks.due("CROSSINGS", ferry.count(10), 0);
-        Checks.due("BANK of the FERRY", ferry.count(3), 0);
-        Checks.due("swim back, and a full hour", ferry.swim(0), 35);
-        Checks.due("TIRED behind a full hour", ferry.look(0, 4), 3);
-        Checks.due("FORCE is STREAM", ferry.look(0, 5), 2);
-        Checks.due("swim(0)", ferry.swim(0), 35);
-        Checks.thrown("swim(0), FORCE below STREAM", IllegalStateException.class,
-                () -> ferry.swim(0));
-        Checks.due("a beast swims", ferry.swim(1), 35);
-        Checks.due("SWIMS", ferry.count(11), 4);
-        Checks.due("CLOCK", ferry.count(2), 140);
-    }
-
-    private static void swimRefused() {
-        RopeFerry ferry = Checks.ferryWith("person 5 60;person 5 60 swims;lame 3;goods 3;"
-                + "person 1 9 swims;beast 9 9 swims;person 2 9 swims;with 1 0;apart 5 3;apart 6 0");
-        for (int being : new int[] {-1, 7, 10, 32, Integer.MAX_VALUE, Integer.MIN_VALUE}) {
-            Checks.thrown("swim(" + being + ")", IndexOutOfBoundsException.class,
-                    () -> ferry.swim(being));
-        }
-        java.util.List<Integer> before = Checks.answersOf(ferry);
-        for (int being = 0; being < 6; being++) {
-            int who = being;
-            Checks.thrown("swim(" + being + ")", IllegalStateException.class,
-                    () -> ferry.swim(who));
-        }
-        Checks.same("behind refused swims", Checks.answersOf(ferry), before);
-        RopeFerry last = Checks.ferryWith("person 2 60 swims;person 1 60 swims;beast 0 5;apart 0 2;"
-                + "stream 1 1;stream 2 0");
-        Checks.due("FORCE of just STREAM", last.swim(0), 12);
-        Checks.thrown("FORCE below STREAM", IllegalStateException.class, () -> last.swim(1));
-        last.rest(60);
-        Checks.due("by STREAM of the hour", last.swim(1), 11);
-        Checks.thrown("STREAM of 1", IllegalStateException.class, () -> last.swim(1));
-        last.rest(60);
-        Checks.due("TIRED", last.look(1, 4), 1);
-        Checks.due("FORCE", last.look(1, 5), 0);
-        Checks.due("no STREAM, no FORCE", last.swim(1), 10);
-        Checks.due("who must not be alone with whom", last.look(0, 6), 1);
-        Checks.thrown("to BANK 0, where 2 is", IllegalStateException.class, () -> last.swim(0));
-    }
-
-    private static void rest() {
-        RopeFerry ferry = new RopeFerry();
-        Checks.due("rest(1)", ferry.rest(1), 1);
-        Checks.due("rest(600)", ferry.rest(600), 601);
-        for (int minutes : new int[] {0, 601, -1, Integer.MIN_VALUE, Integer.MAX_VALUE}) {
-            Checks.thrown("rest(" + minutes + ")", IllegalArgumentException.class,
-                    () -> ferry.rest(minutes));
-        }
-        Checks.due("CLOCK", ferry.count(2), 601);
-        Checks.due("rest(600)", ferry.rest(600), 1201);
-    }
-
-    private static void tiredAndHours() {
-        RopeFerry ferry = Checks.ferryWith("person 9 5 swims;person 5 5;stream 0 0;wide 60;boat 0");
+    /** "(those of the load are on none)": two who are APART may be on THE FERRY. */
+    private static void apartOnTheFerry() {
+        RopeFerry ferry = Checks.ferryWith(FIVE + ";person 9 5 swims;apart 1 2 unless 5");
         ferry.swim(0);
-        // 2 more TIRED by the swim, 1 less as the clock comes to 60.
-        Checks.due("TIRED at 60", ferry.look(0, 4), 1);
-        ferry.rest(59);
-        Checks.due("TIRED at 119", ferry.look(0, 4), 1);
-        ferry.rest(1);
-        Checks.due("TIRED at 120", ferry.look(0, 4), 0);
-        ferry.swim(0);
-        ferry.swim(0);
-        Checks.due("TIRED at 240", ferry.look(0, 4), 2);
-        ferry.rest(70);
-        Checks.due("TIRED at 310", ferry.look(0, 4), 1);
-        ferry.rest(600);
-        Checks.due("never below 0", ferry.look(0, 4), 0);
-        Checks.due("cross(2, 1)", ferry.cross(2, 1), 7);
-        Checks.due("CLOCK", ferry.count(2), 917);
-        Checks.due("TIRED, no full hour", ferry.look(0, 4), 1);
-        ferry.rest(42);
-        Checks.due("TIRED at 959", ferry.look(0, 4), 1);
-        Checks.river(ferry, "person 9 9");
-        Checks.due("1 is pulled back to BANK 0", ferry.cross(2, 4), 7);
-        Checks.due("TIRED of who pulled, and the hour came", ferry.look(2, 4), 0);
-        Checks.due("TIRED of who stood there", ferry.look(0, 4), 0);
+        refused(ferry, 2 | 4, 1);
+        ferry.image();
+        goes(ferry, 2 | 4 | 32, 1, 2);
+        ferry.back();
+        // While 5 is away from 1 and 2 nobody may be: it takes one of them along.
+        goes(ferry, 2 | 32, 1, 2);
+        ferry.cross(0, 16);
+        goes(ferry, 4, 1, 2);
+        Checks.due("BEINGS at BANK 1", ferry.count(4), 1 | 2 | 4 | 32);
     }
 
-    private static void may() {
+    /** "MINUTES: WIDE times NEED by FORCE of PULLERS, rounded up" */
+    private static void minutes() {
+        RopeFerry ferry = Checks.ferryWith("person 9 10 swims;person 9 20 swims;lame 30;beast 7 40;"
+                + "stream 0 1;wide 7");
+        ferry.swim(0);
+        ferry.swim(1);
+        // 7 times 6 by 14.
+        goes(ferry, 4 | 8, 1 | 2, 3);
+        Checks.river(ferry, "person 9 5;person 8 5");
+        // 7 times 2 by 9, and by 17.
+        ferry.image();
+        goes(ferry, 0, 16, 2);
+        ferry.back();
+        goes(ferry, 0, 16 | 32, 1);
+        ferry.back();
+        Checks.river(ferry, "wide 60;stream 0 6");
+        // 60 times 7 by 8: 52 and a half; by 7: 60.
+        goes(ferry, 0, 32, 53);
+        Checks.due("FORCE", ferry.look(0, 5), 7);
+        goes(ferry, 0, 1, 60);
+    }
+
+    /** "(1 at least)": where NEED is 0. */
+    private static void oneMinuteAtLeast() {
+        RopeFerry ferry = Checks.ferryWith("person 9 1 swims;stream 0 0;boat 0;wide 60");
+        ferry.swim(0);
+        Checks.due("need(0)", ferry.need(0), 0);
+        int before = ferry.count(2);
+        goes(ferry, 0, 1, 1);
+        Checks.due("CLOCK", ferry.count(2), before + 1);
+    }
+
+    /** "Then the load and THE FERRY are on the other BANK; all PULLERS are 1 more TIRED" */
+    private static void behindACrossing() {
         RopeFerry ferry = Checks.ferryWith(
-                "lame 1;lame 1;lame 1;lame 1;apart 0 1 unless 2;apart 1 0 unless 3;apart 3 2");
-        boolean[] due = {true, true, true, false, true, true, true, false, true, true, true, false,
-            false, false, false, false};
-        for (int set = 0; set < 16; set++) {
-            Checks.due("may(" + set + ")", ferry.may(set), due[set]);
-            Checks.due("may of " + set + " and of none", ferry.may(set | -16), due[set]);
-        }
-        RopeFerry one = Checks.ferryWith("lame 1;lame 1;lame 1;apart 2 0 unless 1");
-        Checks.due("may(5)", one.may(5), false);
-        Checks.due("may(7)", one.may(7), true);
+                "person 9 10 swims;person 9 20 swims;lame 30;beast 7 40;goods 5;stream 0 1;wide 7");
+        ferry.swim(0);
+        ferry.swim(1);
+        Checks.due("CLOCK behind two SWIMS", ferry.count(2), 16);
+        ferry.cross(4 | 8, 1);
+        Checks.due("CLOCK", ferry.count(2), 16 + 6);
+        Checks.due("BANK of the FERRY", ferry.count(3), 1);
+        Checks.due("BEINGS at BANK 1", ferry.count(4), 15);
+        Checks.due("CROSSINGS", ferry.count(10), 1);
+        Checks.due("SWIMS", ferry.count(11), 2);
+        Checks.due("TIRED of the PULLER", ferry.look(0, 4), 3);
+        Checks.due("TIRED of who did not pull", ferry.look(1, 4), 2);
+        Checks.due("TIRED of the load", ferry.look(3, 4), 0);
+        // "all PULLERS": also those without FORCE.
+        Checks.river(ferry, "person 9 1");
+        ferry.cross(0, 16 | 32);
+        Checks.due("TIRED of goods that pull", ferry.look(4, 4), 1);
+        Checks.due("FORCE of goods", ferry.look(4, 5), 0);
+    }
+
+    /** "A CROSSING by THE FERRY from its BANK": from BANK 1 as from BANK 0. */
+    private static void thereAndBack() {
+        RopeFerry ferry = Checks.ferryWith(FIVE + ";wide 3");
+        ferry.swim(0);
+        goes(ferry, 4 | 8, 1, 1);
+        goes(ferry, 8, 16, 1);
+        Checks.due("BEINGS at BANK 1", ferry.count(4), 1 | 4);
+        Checks.due("BANK of the FERRY", ferry.count(3), 0);
+        goes(ferry, 16, 1, 1);
+        refused(ferry, 0, 2 | 8);
     }
 }
