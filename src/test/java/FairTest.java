@@ -217,6 +217,14 @@ public final class FairTest {
         int seed = seedOf(90);
         fair(ferry, new int[] {seed, 12 + 9, 100, 99}, 1, 20, 0, 0, 0, 1);
         Checks.due("trips as it is back", ferry.fair(seed, 12 + 9 + 1, 100, 99, 5), 2);
+        // There 110 by 20: 6, 60 times 6 by 10: 36. Back 20 by 20: 1, 60 by 10: 6.
+        RopeFerry light = Checks.ferryWith("wide 60;stream 0 0;boat 20;rope 999");
+        fair(light, new int[] {seed, 36 + 6, 100, 10}, 1, 40, 1, 0, 0, 1);
+        Checks.due("trips as it is back", light.fair(seed, 36 + 6 + 1, 100, 10, 5), 2);
+        // There 111 by 20: 6, too. Back 21 by 20: 2, 12 minutes.
+        Checks.river(light, "boat 21");
+        fair(light, new int[] {seed, 36 + 12, 100, 10}, 1, 40, 7, 0, 0, 1);
+        Checks.due("trips as it is back", light.fair(seed, 36 + 12 + 1, 100, 10, 5), 2);
         // There 9 and 109 by 20: 15, 60 times 15 by 50: 18. Back 60 times 14 by 50: 17.
         seed = seedOf(10);
         fair(ferry, new int[] {seed, 18 + 17, 100, 50}, 1, 34, 0, 0, 0, 1);
@@ -231,6 +239,9 @@ public final class FairTest {
         int seed = seedOf(90);
         fair(ferry, new int[] {seed, 4 + 1, 100, 99}, 1, 4, 0, 0, 0, 1);
         Checks.due("trips as it is back", ferry.fair(seed, 4 + 1 + 1, 100, 99, 5), 2);
+        // By FORCE 5 there it is 60; NEED of 1 would be 12 back.
+        fair(ferry, new int[] {seed, 60 + 1, 100, 5}, 1, 40, 20, 0, 0, 1);
+        Checks.due("trips as it is back", ferry.fair(seed, 60 + 1 + 1, 100, 5, 5), 2);
     }
 
     /** "each goes on that with all before still is not above ROPE (BOAT, too)" */

@@ -9,6 +9,7 @@ public final class ImageTest {
         ofAll();
         ofWhatIsCounted();
         ofAMomentOfNothing();
+        ofPullsOwed();
         ofTheRule();
         againAndAgain();
         oneAlone();
@@ -91,6 +92,26 @@ public final class ImageTest {
         Checks.due("TIRED of who is new", ferry.look(0, 4), 0);
         Checks.due("BANK of who is new", ferry.look(0, 6), 0);
         Checks.due("owed(1, 0)", ferry.owed(1, 0), 0);
+    }
+
+    /** "of all": the PULLS of each that owes, the first and the last. */
+    private static void ofPullsOwed() {
+        RopeFerry ferry = Checks.ferryWith("person 9 5;" + Checks.times("lame 5", 7)
+                + ";person 9 5 swims;person 9 5;stream 0 0;boat 0;wide 1");
+        ferry.swim(8);
+        ferry.cross(1 | 2, 256);
+        ferry.cross(0, 512);
+        ferry.image();
+        List<Integer> before = Checks.answersOf(ferry);
+        ferry.cross(4 | 128 | 512, 1 | 256);
+        Checks.due("BALANCE of 9", ferry.look(9, 7), -2);
+        ferry.swim(8);
+        ferry.cross(1, 256);
+        Checks.due("BALANCE of 0", ferry.look(0, 7), 1);
+        ferry.back();
+        Checks.same("behind back", Checks.answersOf(ferry), before);
+        Checks.due("owed(0, 8)", ferry.owed(0, 8), 1);
+        Checks.due("owed(9, 8)", ferry.owed(9, 8), 0);
     }
 
     /** "of all": RULE, too, or that there was none. */

@@ -23,6 +23,9 @@ public final class LeftTest {
 
     /** "after any MOVES, one behind another (also none)" */
     private static void alsoNoMoves() {
+        RopeFerry some = Checks.ferryWith("person 9 5 swims;goods 99;rope 99");
+        Checks.due("a PLAN before", some.plan(1, false, 1), 1);
+        Checks.due("behind a PLAN", some.left(), 2);
         Checks.due("nobody can move", Checks.ferryWith("person 3 60;person 3 60;lame 10").left(), 7);
         RopeFerry ten = Checks.ferryWith(Checks.times("goods 1", 10));
         Checks.due("ten that cannot move", ten.left(), 1023);
@@ -37,14 +40,21 @@ public final class LeftTest {
         Checks.due("either may be left", one.left(), 1);
         one.swim(0);
         Checks.due("the other is left, as it is now", one.left(), 2);
+        // Whichever of the two can be left sooner.
+        for (String lames : new String[] {"lame 5;lame 60", "lame 60;lame 5"}) {
+            RopeFerry two = Checks.ferryWith(lames + ";person 9 5 swims;stream 0 0;boat 0;wide 60");
+            two.swim(2);
+            Checks.river(two, "apart 0 1");
+            Checks.due("0 or 1 of '" + lames + "'", two.left(), 1);
+        }
     }
 
     /** "the fewest BEINGS .. of several the least as bits" */
     private static void fewestAheadOfLeast() {
-        RopeFerry ferry = Checks.ferryWith("person 9 5;person 9 5;person 9 5 swims;person 9 5 swims;"
+        RopeFerry ferry = Checks.ferryWith("person 9 5;person 9 5;person 0 5 swims;person 9 5 swims;"
                 + "stream 0 0;boat 0");
         ferry.swim(3);
-        Checks.river(ferry, "apart 0 2;apart 1 2");
+        Checks.river(ferry, "apart 0 2;apart 1 2;with 3 0");
         // 2 swims away from 0 and 1 (bits 3), or they go over together (2 is left, bits 4).
         Checks.due("one, though the two are less as bits", ferry.left(), 4);
     }

@@ -14,6 +14,7 @@ public final class PlanTest {
         crossingAheadOfSwim();
         swimsByNumber();
         swimOfTheLast();
+        swimsBack();
         rowBehind();
         streamOfNow();
         tiredAsNow();
@@ -107,6 +108,10 @@ public final class PlanTest {
         row(ferry, 8, false);
         row(ferry, 15, true);
         plan(ferry, 2, false, 11, 1);
+        // What was found before is no help.
+        plan(ferry, 8, false, RopeFerry.NONE, RopeFerry.NONE);
+        row(ferry, 2, false, 1025);
+        row(ferry, 8, false);
         RopeFerry nobodyMoves = Checks.ferryWith("person 9 1;lame 1");
         plan(nobodyMoves, 1, false, RopeFerry.NONE, RopeFerry.NONE);
         row(nobodyMoves, 1, false);
@@ -210,6 +215,17 @@ public final class PlanTest {
         row(ferry, 511, true, 1033, 511);
         RopeFerry first = Checks.ferryWith("person 9 1 swims;" + Checks.times("goods 1", 9) + ";stream 0 0");
         row(first, 1022, true, 1024, 1022);
+    }
+
+    /** "A SWIM: one that SWIMS goes to the other BANK": also back, where THE FERRY is wanted. */
+    private static void swimsBack() {
+        RopeFerry ferry = Checks.ferryWith("person 9 5 swims;goods 5;stream 0 0;boat 0;wide 7");
+        ferry.swim(0);
+        ferry.cross(0, 1);
+        ferry.rest(600);
+        // Back (7), to pull THE FERRY there (1), over again (7), to pull 1 over (1).
+        plan(ferry, 2, false, 16, 4);
+        row(ferry, 2, true, 1024, 0, 1024, 2);
     }
 
     /** "the k-th MOVE (from 0 on) .. NONE without, or behind." */
