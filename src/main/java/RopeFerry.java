@@ -199,7 +199,7 @@ public final class RopeFerry {
             throw new IllegalArgumentException("this is no row of loads, or no place in it");
         }
         ways.prepare();
-        return k == NONE ? orders.howMany(banks.state(), 0) : orders.first(banks.state(), k);
+        return k == NONE ? orders.howMany(banks.state()) : orders.first(banks.state(), k);
     }
 
     public int fair(int seed, int minutes, int chance, int force, int what)
@@ -1151,7 +1151,11 @@ public final class RopeFerry {
 
         /** NONE without force. */
         int minutesFor(int need, int force) {
-            return force <= 0 ? NONE : Math.max(1, (river.wide * need + force - 1) / force);
+            if (force <= 0) {
+                return NONE;
+            }
+            int minutes = (river.wide * need + force - 1) / force;
+            return minutes < 1 ? 1 : minutes;
         }
 
         private int here(int state) {
@@ -1235,7 +1239,7 @@ public final class RopeFerry {
         // A way has fewer moves than states, of 69 minutes at the most: so neither part runs over.
         private static final int MOVE_PART = 1 << 12;
         private static final int MINUTE_PART = 1 << 18;
-        private static final int NOT_REACHED = Integer.MAX_VALUE;
+        private static final int NOT_REACHED = 0x7fffffff;
         // A bit of no being: all states are gone through in vain.
         private static final int NO_GOAL = SETS;
 
@@ -1411,18 +1415,9 @@ public final class RopeFerry {
             return true;
         }
 
-        /** In how many orders the loads that are not used can follow; each level uses one more. */
-        int howMany(int state, int used) {
-            if (used == (1 << size) - 1) {
-                return 1;
-            }
-            int orders = 0;
-            for (int i = 0; i < size; i++) {
-                if (canFollow(state, used, i)) {
-                    orders += howMany(moves.behind(state, loads[i]), used | 1 << i);
-                }
-            }
-            return orders;
+        /** In how many orders all the loads can follow. */
+        int howMany(int from) {
+            return ordersFrom(from, 0);
         }
 
         /** The k-th number of the first order, or NONE. */
@@ -1442,16 +1437,31 @@ public final class RopeFerry {
 
         private int firstNext(int state, int used) {
             for (int i = 0; i < size; i++) {
-                if (canFollow(state, used, i)
-                        && howMany(moves.behind(state, loads[i]), used | 1 << i) > 0) {
+                if (ordersThrough(state, used, i) > 0) {
                     return i;
                 }
             }
             return NONE;
         }
 
-        private boolean canFollow(int state, int used, int i) {
-            return (used >> i & 1) == 0 && moves.ferrying(state, loads[i]) != NONE;
+        /** Of the loads that are not used; each level uses one more, so there are few levels. */
+        private int ordersFrom(int state, int used) {
+            if (used == (1 << size) - 1) {
+                return 1;
+            }
+            int orders = 0;
+            for (int i = 0; i < size; i++) {
+                orders += ordersThrough(state, used, i);
+            }
+            return orders;
+        }
+
+        /** Of the loads that are not used, with this one the next; none, if it cannot be that. */
+        private int ordersThrough(int state, int used, int i) {
+            if ((used >> i & 1) != 0 || moves.ferrying(state, loads[i]) == NONE) {
+                return 0;
+            }
+            return ordersFrom(moves.behind(state, loads[i]), used | 1 << i);
         }
     }
 

@@ -19,6 +19,7 @@ public final class PlanTest {
         streamOfNow();
         tiredAsNow();
         whoPulls();
+        rowBehindAnother();
         goesThroughMuch();
         Checks.finish();
     }
@@ -282,6 +283,17 @@ public final class PlanTest {
         plan(all, 4, false, 4, 1);
         all.swim(1);
         plan(all, 4, false, 2, 1);
+    }
+
+    /** "of the MOVES by which it is still so": an earlier ROW is no help to take a detour. */
+    private static void rowBehindAnother() {
+        RopeFerry ferry = Checks.ferryWith("person 9 20 swims;lame 20;person 9 20;stream 0 0;boat 0");
+        // All are at BANK 0 as this PLAN begins.
+        row(ferry, 1, false, 1024);
+        ferry.swim(0);
+        // THE FERRY could go with nobody (1), and come back with 0 (2): it is no part of this PLAN.
+        plan(ferry, 2, false, 2, 1);
+        row(ferry, 2, false, 2);
     }
 
     /** "BEINGS (at most 10": every state and every load is gone through. */
